@@ -54,12 +54,13 @@ public final class HeardVotes {
     private final int[] tape = new int[TAPE_BYTES];
     private final int[] written = new int[MOST_SLOTS * (MOST_LETTERS + 2)];
     private final int[] newWeights = new int[MOST_HEARINGS];
+    private final int[] heardBefore = new int[MOST_SLOTS];
     private final Speech speech = new Speech();
     private final Rules rules = new Rules();
     private final Net net = new Net();
     private final Net paper = new Net();
     private final Acts acts = new Acts();
-    private final Rows rows = new Rows(MOST_WORDS);
+    private final Rows rows = new Rows();
     private final Reader reader;
     private final Fars fars;
     private final Ballot ballot;
@@ -73,7 +74,7 @@ public final class HeardVotes {
 
     public HeardVotes() {
         reader = new Reader(tape);
-        fars = new Fars(speech);
+        fars = new Fars(speech, rows);
         ballot = new Ballot(speech, rules);
         weaver = new Weaver(speech, rules, fars, ballot);
         orders = new Orders(speech, weaver);
@@ -202,9 +203,8 @@ public final class HeardVotes {
         if (!isHearing(h) || !isHearing(g)) {
             return refused(NO_SUCH);
         }
-        rows.setLeft(speech.wordAt, h * MOST_EACH, speech.countOf(h));
-        rows.setRight(speech.wordAt, g * MOST_EACH, speech.countOf(g));
-        return answered(rows.changes());
+        return answered(rows.changes(speech.wordAt, h * MOST_EACH, speech.countOf(h),
+                speech.wordAt, g * MOST_EACH, speech.countOf(g)));
     }
 
     // ---- acts
@@ -434,9 +434,8 @@ public final class HeardVotes {
             return refused(NO_SUCH);
         }
         ballot.listHeard(net);
-        rows.setLeft(ballot.heardWords, 0, ballot.heardCount);
-        rows.setRight(speech.wordAt, h * MOST_EACH, speech.countOf(h));
-        return answered(rows.changes());
+        return answered(rows.changes(ballot.heardWords, 0, ballot.heardCount,
+                speech.wordAt, h * MOST_EACH, speech.countOf(h)));
     }
 
     // ---- on paper
@@ -470,11 +469,11 @@ public final class HeardVotes {
             return refused(NOT_SO);
         }
         ballot.listHeard(net);
-        rows.setLeft(ballot.heardWords, 0, ballot.heardCount);
+        int before = ballot.heardCount;
+        System.arraycopy(ballot.heardWords, 0, heardBefore, 0, MOST_SLOTS);
         weaver.weaveWithout(net, h, paper);
         ballot.listHeard(paper);
-        rows.setRight(ballot.heardWords, 0, ballot.heardCount);
-        return answered(rows.changes());
+        return answered(rows.changes(heardBefore, 0, before, ballot.heardWords, 0, ballot.heardCount));
     }
 
     public int best(int i) {
@@ -699,6 +698,9 @@ public final class HeardVotes {
         private final int[] counts = new int[MOST_HEARINGS];
         /** Each WORD as one number: of each letter five bits (1 a, ..), the first letter's lowest. */
         private final int[] spelled = new int[MOST_WORDS];
+        /** Letter k of WORD w, at w * MOST_LETTERS + k (0 a, ..); NOTHING beyond it. */
+        final int[] letters = new int[MOST_WORDS * MOST_LETTERS];
+        private final int[] lengths = new int[MOST_WORDS];
 
         void clear() {
             hearings = 0;
@@ -714,6 +716,8 @@ public final class HeardVotes {
             System.arraycopy(other.weights, 0, weights, 0, MOST_HEARINGS);
             System.arraycopy(other.counts, 0, counts, 0, MOST_HEARINGS);
             System.arraycopy(other.spelled, 0, spelled, 0, MOST_WORDS);
+            System.arraycopy(other.letters, 0, letters, 0, letters.length);
+            System.arraycopy(other.lengths, 0, lengths, 0, MOST_WORDS);
         }
 
         int countOf(int h) {
@@ -725,24 +729,20 @@ public final class HeardVotes {
         }
 
         int wordOf(int h, int i) {
-            return isPlace(h, i) ? wordAt[h * MOST_EACH + i] : NONE;
+            return h >= 0 && h < MOST_HEARINGS && i >= 0 && i < MOST_EACH ? wordAt[h * MOST_EACH + i] : NONE;
         }
 
         int timeOf(int h, int i) {
-            return isPlace(h, i) ? timeAt[h * MOST_EACH + i] : NONE;
+            return h >= 0 && h < MOST_HEARINGS && i >= 0 && i < MOST_EACH ? timeAt[h * MOST_EACH + i] : NONE;
         }
 
-        private static boolean isPlace(int h, int i) {
-            return h >= 0 && h < MOST_HEARINGS && i >= 0 && i < MOST_EACH;
-        }
-
-        /** Letter k of a WORD (0 a, ..); NOTHING beyond it. */
         int letterOf(int w, int k) {
-            if (w < 0 || w >= MOST_WORDS || k < 0 || k >= MOST_LETTERS) {
-                return NOTHING;
-            }
-            int sign = (spelled[w] >> (5 * k)) & 31;
-            return sign == 0 ? NOTHING : sign - 1;
+            return w >= 0 && w < MOST_WORDS && k >= 0 && k < MOST_LETTERS
+                    ? letters[w * MOST_LETTERS + k] : NOTHING;
+        }
+
+        int lengthOf(int w) {
+            return w >= 0 && w < MOST_WORDS ? lengths[w] : 0;
         }
 
         boolean hasName(int spelling) {
@@ -776,7 +776,7 @@ public final class HeardVotes {
         boolean addWord(int spelling) {
             int h = hearings - 1;
             int i = countOf(h);
-            if (!isPlace(h, i)) {
+            if (h < 0 || h >= MOST_HEARINGS || i < 0 || i >= MOST_EACH) {
                 return false;
             }
             wordAt[h * MOST_EACH + i] = numberOf(spelling);
@@ -788,7 +788,8 @@ public final class HeardVotes {
         boolean setTime(int time) {
             int h = hearings - 1;
             int i = countOf(h) - 1;
-            if (!isPlace(h, i) || i > 0 && time <= timeOf(h, i - 1)) {
+            if (h < 0 || h >= MOST_HEARINGS || i < 0 || i >= MOST_EACH
+                    || i > 0 && time <= timeOf(h, i - 1)) {
                 return false;
             }
             timeAt[h * MOST_EACH + i] = time;
@@ -799,7 +800,7 @@ public final class HeardVotes {
         private int numberOf(int spelling) {
             for (int w = 0; w < MOST_WORDS; w++) {
                 if (w >= words) {
-                    spelled[w] = spelling;
+                    spell(w, spelling);
                     words = w + 1;
                 }
                 if (spelled[w] == spelling) {
@@ -807,6 +808,16 @@ public final class HeardVotes {
                 }
             }
             return NONE;
+        }
+
+        private void spell(int w, int spelling) {
+            spelled[w] = spelling;
+            lengths[w] = 0;
+            for (int k = 0; k < MOST_LETTERS; k++) {
+                int sign = (spelling >> (5 * k)) & 31;
+                letters[w * MOST_LETTERS + k] = sign == 0 ? NOTHING : sign - 1;
+                lengths[w] += sign == 0 ? 0 : 1;
+            }
         }
     }
 
@@ -961,7 +972,7 @@ public final class HeardVotes {
         }
 
         private int takeWeight() {
-            if (!isWithin(value, 1, MOST_WEIGHT)) {
+            if (value < 1 || value > MOST_WEIGHT) {
                 return BOUNDS;
             }
             speech.setWeight(value);
@@ -977,39 +988,16 @@ public final class HeardVotes {
         }
     }
 
-    /** Two rows of numbers, and how few changes make one of the other. */
+    /** How few changes make one row of numbers of another. */
     private static final class Rows {
-        private final int[] left;
-        private final int[] right;
-        private final int[] line;
-        private int leftCount = 0;
-        private int rightCount = 0;
+        private final int[] line = new int[MOST_WORDS + 1];
 
-        Rows(int most) {
-            int room = most > 0 ? most : 0;
-            left = new int[room];
-            right = new int[room];
-            line = new int[room + 1];
-        }
-
-        void setLeft(int[] from, int begin, int count) {
-            leftCount = fill(left, from, begin, count);
-        }
-
-        void setRight(int[] from, int begin, int count) {
-            rightCount = fill(right, from, begin, count);
-        }
-
-        private static int fill(int[] to, int[] from, int begin, int count) {
-            if (begin < 0 || count < 0 || count > to.length || count > from.length - begin) {
+        /** The fewest put in, taken out, or put in place of another one; each row is a part of an array. */
+        int changes(int[] left, int leftFrom, int leftCount, int[] right, int rightFrom, int rightCount) {
+            if (!isPart(left, leftFrom, leftCount) || !isPart(right, rightFrom, rightCount)
+                    || rightCount > MOST_WORDS) {
                 return 0;
             }
-            System.arraycopy(from, begin, to, 0, count);
-            return count;
-        }
-
-        /** The fewest put in, taken out, or put in place of another one. */
-        int changes() {
             for (int j = 0; j <= rightCount; j++) {
                 line[j] = j;
             }
@@ -1019,24 +1007,28 @@ public final class HeardVotes {
                 for (int j = 0; j < rightCount; j++) {
                     int beside = line[j + 1];
                     int fewest = (beside < line[j] ? beside : line[j]) + 1;
-                    int placed = corner + (left[i] == right[j] ? 0 : 1);
+                    int placed = corner + (left[leftFrom + i] == right[rightFrom + j] ? 0 : 1);
                     line[j + 1] = placed < fewest ? placed : fewest;
                     corner = beside;
                 }
             }
             return line[rightCount];
         }
+
+        private static boolean isPart(int[] row, int from, int count) {
+            return from >= 0 && count >= 0 && from <= row.length && count <= row.length - from;
+        }
     }
 
     /** FAR of WORDS; each pair is reckoned once a TEXT, since best() asks for it over and over. */
     private static final class Fars {
         private final Speech speech;
+        private final Rows rows;
         private final int[] known = new int[MOST_WORDS * MOST_WORDS];
-        private final int[] letters = new int[MOST_LETTERS];
-        private final Rows rows = new Rows(MOST_LETTERS);
 
-        Fars(Speech speech) {
+        Fars(Speech speech, Rows rows) {
             this.speech = speech;
+            this.rows = rows;
             Arrays.fill(known, NONE);
         }
 
@@ -1050,21 +1042,10 @@ public final class HeardVotes {
             }
             int pair = w * MOST_WORDS + v;
             if (known[pair] == NONE) {
-                rows.setLeft(letters, 0, spell(w));
-                rows.setRight(letters, 0, spell(v));
-                known[pair] = rows.changes();
+                known[pair] = rows.changes(speech.letters, w * MOST_LETTERS, speech.lengthOf(w),
+                        speech.letters, v * MOST_LETTERS, speech.lengthOf(v));
             }
             return known[pair];
-        }
-
-        /** Puts the letters of a WORD into the row; answers how many. */
-        private int spell(int w) {
-            int count = 0;
-            for (int k = 0; k < MOST_LETTERS; k++) {
-                letters[k] = speech.letterOf(w, k);
-                count += letters[k] >= 0 ? 1 : 0;
-            }
-            return count;
         }
     }
 
@@ -1156,11 +1137,8 @@ public final class HeardVotes {
         }
 
         int thereOf(int s, int h) {
-            return isPlace(s, h) ? there[s * MOST_HEARINGS + h] : NOTHING;
-        }
-
-        private static boolean isPlace(int s, int h) {
-            return s >= 0 && s < MOST_SLOTS && h >= 0 && h < MOST_HEARINGS;
+            return s >= 0 && s < MOST_SLOTS && h >= 0 && h < MOST_HEARINGS
+                    ? there[s * MOST_HEARINGS + h] : NOTHING;
         }
 
         int slotOf(int h, int i) {
@@ -1181,7 +1159,7 @@ public final class HeardVotes {
         }
 
         void putThere(int s, int h, int i) {
-            if (isPlace(s, h)) {
+            if (s >= 0 && s < MOST_SLOTS && h >= 0 && h < MOST_HEARINGS) {
                 there[s * MOST_HEARINGS + h] = i;
             }
         }

@@ -480,23 +480,29 @@ public final class HeardVotesPromises {
     }
 
     private static void sixtyWords() {
-        StringBuilder text = new StringBuilder();
-        for (int h = 0; h < 5; h++) {
-            text.append(h > 0 ? ";" : "").append((char) ('v' + h)).append(" weight 1:");
-            for (int i = 0; i < 12; i++) {
-                text.append((char) ('a' + h)).append((char) ('a' + i)).append(i);
-            }
-        }
-        HeardVotes x = told(text.toString());
+        HeardVotes x = told(sixty());
         due("about(1)", x.about(1), 60);
         due("word(4, 11, 0)", x.word(4, 11, 0), 59);
-        due("letter(59, 0)", x.letter(59, 0), 4);
-        due("letter(59, 1)", x.letter(59, 1), 11);
+        due("word(4, 11, 1)", x.word(4, 11, 1), 11);
+        due("letter(59, 0)", x.letter(59, 0), 25);
+        due("letter(59, 5)", x.letter(59, 5), 7);
         refused(x, "letter(60, 0)", x.letter(60, 0), 1);
-        x.costs(1, 1, 9);
-        x.share(0);
-        x.joinAll(0);
-        due("all are heard", x.about(4), x.about(3));
+        refused(x, "far(60, 59)", x.far(60, 59), 1);
+        due("far(59, 0)", x.far(59, 0), 6);
+    }
+
+    /** Five HEARINGS of twelve WORDS of six letters each, any two of which are FAR by 3 at the least. */
+    private static String sixty() {
+        StringBuilder text = new StringBuilder();
+        for (int n = 0; n < 60; n++) {
+            if (n % 12 == 0) {
+                text.append(n > 0 ? ";" : "").append((char) ('v' + n / 12)).append(" weight 1:");
+            }
+            char one = (char) (n < 26 ? 'a' + n : n < 52 ? 'a' + n - 26 : 'z' - (59 - n));
+            char two = (char) (n < 26 ? one : n < 52 ? 'a' + (n + 1) % 26 : 'a' + n % 26);
+            text.append(("" + one + two).repeat(3)).append(n % 12);
+        }
+        return text.toString();
     }
 
     private static void letter() {
@@ -681,6 +687,55 @@ public final class HeardVotesPromises {
         leastFarOfAll();
         newSlotsBetween();
         timeOfTheSlotByWeights();
+        costsAtFirst();
+        sixtySlots();
+    }
+
+    private static void costsAtFirst() {
+        HeardVotes x = told("x weight 1: aaaaaa 0; y weight 1: bbbbbb 999; z weight 1: aaaaaa 999");
+        x.join(0);
+        due("NEAREST 4", x.cost(1), 4);
+        due("WINDOW 999", x.cost(2), 0);
+        x.window(998);
+        due("999 are more than 998 apart", x.cost(2), 1);
+    }
+
+    /** Each word is cheaper as a NEW one, behind all SLOTS that are skipped. */
+    private static void sixtySlots() {
+        HeardVotes x = told(sixty());
+        x.costs(1, 1, 9);
+        due("best(-1)", x.best(-1), 180);
+        due("best(4)", x.best(4), 4);
+        for (int h = 0; h < 5; h++) {
+            due("join(" + h + ")", x.join(h), 12 * h + 12);
+        }
+        due("SLOTS", x.about(3), 60);
+        due("COSTS", x.about(5), 180);
+        due("at(59, 4)", x.at(59, 4), 11);
+        due("at(48, 4)", x.at(48, 4), 0);
+        due("at(47, 4)", x.at(47, 4), BEYOND);
+        due("at(47, 3)", x.at(47, 3), 11);
+        due("word(2, 5, 2)", x.word(2, 5, 2), 29);
+        due("nothing is HEARD", x.about(4), 0);
+        due("doubtful(59)", x.doubtful(59), 59);
+        due("errors(0)", x.errors(0), 12);
+        x.share(0);
+        due("all are HEARD", x.about(4), 60);
+        due("heard(59, 0)", x.heard(59, 0), 59);
+        due("slot(59, 5)", x.slot(59, 5), 59);
+        due("errors(0)", x.errors(0), 48);
+        due("without(0)", x.without(0), 12);
+        due("write()", x.write(), 419);
+        due("octet(418)", octetOrNone(x, 418), 'h');
+        due("octet(419)", octetOrNone(x, 419), NONE);
+        due("drop(1)", x.drop(1), 48);
+        due("cost(1)", x.cost(1), 60);
+        due("way(1, 47)", x.way(1, 47), 1);
+        due("way(1, 59)", x.way(1, 59), 2);
+        due("way(1, 60)", x.way(1, 60), BEYOND);
+        due("join(1)", x.join(1), 60);
+        due("at(59, 1)", x.at(59, 1), 11);
+        refused(x, "slot(60, 0)", x.slot(60, 0), 1);
     }
 
     /** A word is as near to a SLOT as to the nearest word THERE. */
