@@ -378,9 +378,9 @@ public final class HeardVotes {
             case 1:
                 return answered(points);
             case 2:
-                return answered(points / commonPart(points, ballot.total));
+                return answered(lessened(points, points, ballot.total));
             case 3:
-                return answered(ballot.total / commonPart(points, ballot.total));
+                return answered(lessened(ballot.total, points, ballot.total));
             default:
                 return refused(NO_SUCH);
         }
@@ -394,9 +394,9 @@ public final class HeardVotes {
         int above = ballot.doubtPoints();
         switch (what) {
             case 0:
-                return answered(above / commonPart(above, ballot.total));
+                return answered(lessened(above, above, ballot.total));
             case 1:
-                return answered(ballot.total / commonPart(above, ballot.total));
+                return answered(lessened(ballot.total, above, ballot.total));
             default:
                 return refused(NO_SUCH);
         }
@@ -674,8 +674,8 @@ public final class HeardVotes {
         }
     }
 
-    /** The greatest whole that divides both, never 0: by Euclid, who needs fewer than 64 steps here. */
-    private static int commonPart(int a, int b) {
+    /** A number by the greatest whole that divides both others: by Euclid, who needs fewer than 64 steps here. */
+    private static int lessened(int number, int a, int b) {
         int more = a;
         int less = b;
         for (int k = 0; k < 64 && less != 0; k++) {
@@ -683,7 +683,7 @@ public final class HeardVotes {
             more = less;
             less = rest;
         }
-        return more > 0 ? more : 1;
+        return more > 0 ? number / more : number;
     }
 
     /** THE TEXT: of each HEARING its words and TIMES, and the WORDS by their numbers. */
@@ -994,7 +994,8 @@ public final class HeardVotes {
 
         /** The fewest put in, taken out, or put in place of another one; each row is a part of an array. */
         int changes(int[] left, int leftFrom, int leftCount, int[] right, int rightFrom, int rightCount) {
-            if (!isPart(left, leftFrom, leftCount) || !isPart(right, rightFrom, rightCount)
+            if (leftFrom < 0 || leftCount < 0 || leftCount > left.length - leftFrom
+                    || rightFrom < 0 || rightCount < 0 || rightCount > right.length - rightFrom
                     || rightCount > MOST_WORDS) {
                 return 0;
             }
@@ -1013,10 +1014,6 @@ public final class HeardVotes {
                 }
             }
             return line[rightCount];
-        }
-
-        private static boolean isPart(int[] row, int from, int count) {
-            return from >= 0 && count >= 0 && from <= row.length && count <= row.length - from;
         }
     }
 
