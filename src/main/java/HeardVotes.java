@@ -1021,7 +1021,8 @@ public final class HeardVotes {
     private static final class Fars {
         private final Speech speech;
         private final Rows rows;
-        private final int[] known = new int[MOST_WORDS * MOST_WORDS];
+        /** Of WORDS w and v below it, at w * (w - 1) / 2 + v: FAR is the same both ways, and 0 of one WORD. */
+        private final int[] known = new int[MOST_WORDS * (MOST_WORDS - 1) / 2];
 
         Fars(Speech speech, Rows rows) {
             this.speech = speech;
@@ -1034,10 +1035,10 @@ public final class HeardVotes {
         }
 
         int apart(int w, int v) {
-            if (w < 0 || w >= MOST_WORDS || v < 0 || v >= MOST_WORDS) {
+            if (w < 0 || w >= MOST_WORDS || v < 0 || v >= MOST_WORDS || w == v) {
                 return 0;
             }
-            int pair = w * MOST_WORDS + v;
+            int pair = w > v ? w * (w - 1) / 2 + v : v * (v - 1) / 2 + w;
             if (known[pair] == NONE) {
                 known[pair] = rows.changes(speech.letters, w * MOST_LETTERS, speech.lengthOf(w),
                         speech.letters, v * MOST_LETTERS, speech.lengthOf(v));
@@ -1048,6 +1049,9 @@ public final class HeardVotes {
 
     /** What acts set: costs, WINDOW, SHARE, and the WEIGHTS as they are now. */
     private static final class Rules {
+        /** How much of a row keeps them. */
+        static final int KEPT = 5 + MOST_HEARINGS;
+
         int fresh = 0;
         int gap = 0;
         int nearest = 0;
@@ -1066,13 +1070,28 @@ public final class HeardVotes {
             }
         }
 
-        void copyFrom(Rules other) {
-            fresh = other.fresh;
-            gap = other.gap;
-            nearest = other.nearest;
-            window = other.window;
-            share = other.share;
-            System.arraycopy(other.weights, 0, weights, 0, MOST_HEARINGS);
+        void keepIn(int[] row, int from) {
+            if (from < 0 || from > row.length - KEPT) {
+                return;
+            }
+            row[from] = fresh;
+            row[from + 1] = gap;
+            row[from + 2] = nearest;
+            row[from + 3] = window;
+            row[from + 4] = share;
+            System.arraycopy(weights, 0, row, from + 5, MOST_HEARINGS);
+        }
+
+        void takeFrom(int[] row, int from) {
+            if (from < 0 || from > row.length - KEPT) {
+                return;
+            }
+            fresh = row[from];
+            gap = row[from + 1];
+            nearest = row[from + 2];
+            window = row[from + 3];
+            share = row[from + 4];
+            System.arraycopy(row, from + 5, weights, 0, MOST_HEARINGS);
         }
 
         int weightOf(int h) {
@@ -1088,6 +1107,12 @@ public final class HeardVotes {
 
     /** THE NET: SLOTS in a row, and who is JOINED, in which order, by which COST. */
     private static final class Net {
+        /** How much of a row keeps it: of each word its SLOT is enough, since SLOTS have one word at least. */
+        static final int KEPT = 2 + 2 * MOST_HEARINGS + MOST_WORDS;
+        private static final int ORDER_KEPT = 2;
+        private static final int COSTS_KEPT = ORDER_KEPT + MOST_HEARINGS;
+        private static final int WORDS_KEPT = COSTS_KEPT + MOST_HEARINGS;
+
         int slots = 0;
         int joined = 0;
         private final int[] order = new int[MOST_HEARINGS];
@@ -1114,6 +1139,45 @@ public final class HeardVotes {
             System.arraycopy(other.places, 0, places, 0, MOST_HEARINGS);
             System.arraycopy(other.costs, 0, costs, 0, MOST_HEARINGS);
             System.arraycopy(other.there, 0, there, 0, there.length);
+        }
+
+        void keepIn(int[] row, int from) {
+            if (from < 0 || from > row.length - KEPT) {
+                return;
+            }
+            row[from] = slots;
+            row[from + 1] = joined;
+            System.arraycopy(order, 0, row, from + ORDER_KEPT, MOST_HEARINGS);
+            System.arraycopy(costs, 0, row, from + COSTS_KEPT, MOST_HEARINGS);
+            Arrays.fill(row, from + WORDS_KEPT, from + KEPT, NOTHING);
+            for (int s = 0; s < slots; s++) {
+                for (int h = 0; h < MOST_HEARINGS; h++) {
+                    int i = thereOf(s, h);
+                    if (i >= 0 && i < MOST_EACH) {
+                        row[from + WORDS_KEPT + h * MOST_EACH + i] = s;
+                    }
+                }
+            }
+        }
+
+        void takeFrom(int[] row, int from) {
+            if (from < 0 || from > row.length - KEPT) {
+                return;
+            }
+            clear();
+            slots = row[from];
+            for (int k = 0; k < row[from + 1] && k < MOST_HEARINGS; k++) {
+                int h = row[from + ORDER_KEPT + k];
+                if (h >= 0 && h < MOST_HEARINGS) {
+                    addJoined(h, row[from + COSTS_KEPT + h]);
+                }
+            }
+            for (int s = 0; s < slots; s++) {
+                emptySlot(s);
+            }
+            for (int w = 0; w < MOST_WORDS; w++) {
+                putThere(row[from + WORDS_KEPT + w], w / MOST_EACH, w % MOST_EACH);
+            }
         }
 
         int placeOf(int h) {
@@ -1185,17 +1249,11 @@ public final class HeardVotes {
 
     /** The latest ACTS: rules and net as they were ahead of each, in a ring. */
     private static final class Acts {
+        private static final int KEPT = Rules.KEPT + Net.KEPT;
+
         int count = 0;
         private int next = 0;
-        private final Rules[] keptRules = new Rules[MOST_ACTS];
-        private final Net[] keptNets = new Net[MOST_ACTS];
-
-        Acts() {
-            for (int k = 0; k < MOST_ACTS; k++) {
-                keptRules[k] = new Rules();
-                keptNets[k] = new Net();
-            }
-        }
+        private final int[] kept = new int[MOST_ACTS * KEPT];
 
         void clear() {
             count = 0;
@@ -1203,26 +1261,16 @@ public final class HeardVotes {
         }
 
         void keep(Rules rules, Net net) {
-            int k = next >= 0 && next < MOST_ACTS ? next : 0;
-            Rules toRules = keptRules[k];
-            Net toNet = keptNets[k];
-            if (toRules != null && toNet != null) {
-                toRules.copyFrom(rules);
-                toNet.copyFrom(net);
-            }
-            next = k + 1 < MOST_ACTS ? k + 1 : 0;
+            rules.keepIn(kept, next * KEPT);
+            net.keepIn(kept, next * KEPT + Rules.KEPT);
+            next = next + 1 < MOST_ACTS ? next + 1 : 0;
             count = count < MOST_ACTS ? count + 1 : MOST_ACTS;
         }
 
         void takeBack(Rules rules, Net net) {
-            int k = next >= 1 && next < MOST_ACTS ? next - 1 : MOST_ACTS - 1;
-            Rules fromRules = keptRules[k];
-            Net fromNet = keptNets[k];
-            if (fromRules != null && fromNet != null) {
-                rules.copyFrom(fromRules);
-                net.copyFrom(fromNet);
-            }
-            next = k;
+            next = next > 0 ? next - 1 : MOST_ACTS - 1;
+            rules.takeFrom(kept, next * KEPT);
+            net.takeFrom(kept, next * KEPT + Rules.KEPT);
             count = count > 0 ? count - 1 : 0;
         }
     }

@@ -16,8 +16,8 @@ import java.util.Set;
  * more, whatever is asked, and throw nothing but the exception of octet().
  */
 public final class HeardVotesRoom {
-    private static final int MOST_OBJECTS = 200;
-    private static final int MOST_ELEMENTS = 20000;
+    private static final int MOST_OBJECTS = 100;
+    private static final int MOST_ELEMENTS = 12000;
     private static final int[] EDGES = {Integer.MIN_VALUE, Integer.MIN_VALUE + 1, -1000, -61, -13, -6, -5, -3, -2, -1, 0,
         1, 2, 3, 4, 5, 6, 7, 8, 9, 10, 11, 12, 13, 47, 48, 49, 59, 60, 61, 99, 100, 200, 201, 599, 600, 601, 999, 1000,
         Integer.MAX_VALUE / 5, Integer.MAX_VALUE / 12, Integer.MAX_VALUE - 1, Integer.MAX_VALUE};
