@@ -1437,9 +1437,12 @@ public final class HeardVotes {
         /** With i words and s SLOTS gone through, at i * WIDE + s: the least cost of the rest. */
         private final int[] rest = new int[(MOST_EACH + 1) * WIDE];
         private final int[] stepAt = new int[(MOST_EACH + 1) * WIDE];
-        private final int[] times = new int[MOST_SLOTS];
         private final int[] way = new int[MOST_SLOTS + MOST_EACH];
         private int steps = 0;
+        /** Of the SLOT that was looked into last: the words THERE, how many, and its TIME. */
+        private final int[] slotWords = new int[MOST_HEARINGS];
+        private int slotCount = 0;
+        private int slotTime = 0;
 
         Weaver(Speech speech, Rules rules, Fars fars, Ballot ballot) {
             this.speech = speech;
@@ -1456,16 +1459,16 @@ public final class HeardVotes {
             if (count < 0 || count > MOST_EACH || slots < 0 || slots > MOST_SLOTS) {
                 return TOO_DEAR;
             }
-            for (int s = 0; s < slots; s++) {
-                times[s] = ballot.meanTime(net, s, ANY_WORD);
-            }
-            for (int i = count; i >= 0; i--) {
-                for (int s = slots; s >= 0; s--) {
+            for (int s = slots; s >= 0; s--) {
+                if (s < slots) {
+                    lookInto(net, s);
+                }
+                for (int i = count; i >= 0; i--) {
                     int here = i * WIDE + s;
                     int least = i == count && s == slots ? 0 : TOO_DEAR;
                     int step = MATCH;
                     if (i < count && s < slots) {
-                        least = matchCost(net, s, h, i) + rest[here + WIDE + 1];
+                        least = matchCost(h, i) + rest[here + WIDE + 1];
                     }
                     if (s < slots && rules.gap + rest[here + 1] < least) {
                         least = rules.gap + rest[here + 1];
@@ -1483,17 +1486,27 @@ public final class HeardVotes {
             return rest[0];
         }
 
-        private int matchCost(Net net, int s, int h, int i) {
-            int w = speech.wordOf(h, i);
-            int least = rules.nearest;
-            for (int g = 0; g < MOST_HEARINGS && least > 0; g++) {
-                int j = net.thereOf(s, g);
-                if (j >= 0) {
-                    int apart = fars.apart(w, speech.wordOf(g, j));
-                    least = apart < least ? apart : least;
+        /** Once a SLOT, since each word of the HEARING is then held against the same words THERE. */
+        private void lookInto(Net net, int s) {
+            slotCount = 0;
+            for (int h = 0; h < MOST_HEARINGS; h++) {
+                int i = net.thereOf(s, h);
+                if (i >= 0 && slotCount < MOST_HEARINGS) {
+                    slotWords[slotCount] = speech.wordOf(h, i);
+                    slotCount++;
                 }
             }
-            int late = speech.timeOf(h, i) - times[s];
+            slotTime = ballot.meanTime(net, s, ANY_WORD);
+        }
+
+        private int matchCost(int h, int i) {
+            int w = speech.wordOf(h, i);
+            int least = rules.nearest;
+            for (int c = 0; c < slotCount && least > 0; c++) {
+                int apart = fars.apart(w, slotWords[c]);
+                least = apart < least ? apart : least;
+            }
+            int late = speech.timeOf(h, i) - slotTime;
             return (late < 0 ? -late : late) > rules.window ? least + 1 : least;
         }
 
